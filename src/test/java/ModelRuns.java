@@ -12,7 +12,7 @@ import java.util.Random;
  */
 public final class ModelRuns {
     private static final int RUNS = 400;
-    private static final int CALLS = 500;
+    private static final int CALLS = 400;
 
     private static int wrong = 0;
 
@@ -53,6 +53,15 @@ public final class ModelRuns {
         }
 
         private void step() {
+            // Across the line that the terms of these runs are near, fronts are long.
+            if (number % 4 == 0 && dice.nextInt(5) == 0) {
+                int q = dice.nextInt(13) - 6;
+                due("lose", made.lose(0, q), model.lose(0, q), 0, q);
+            }
+            if (number % 4 == 1 && dice.nextInt(5) == 0) {
+                int w = dice.nextInt(2);
+                due("two", made.two(w), model.two(w), w);
+            }
             switch (dice.nextInt(25)) {
                 case 0, 1, 2, 3 -> term();
                 case 4 -> {
