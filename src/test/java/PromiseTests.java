@@ -35,6 +35,7 @@ public final class PromiseTests {
         loseByFactors();
         keep();
         keepByOneSide();
+        keepAtTheEdge();
         two();
         twoSigns();
         round();
@@ -249,6 +250,9 @@ public final class PromiseTests {
     private static void shapeOfSum() {
         RootShapes x = made(WIDEST, WIDEST);
         figure(x, 2, 288, 48, 121, 0, 240, 252, 12);
+        int[][] inFirst = rows(t(3, 3, 1), t(2, 2, 1), t(2, 3, 1), t(3, 2, 1), t(0, 0, 1), t(6, 0, 1), t(0, 6, 1), t(6, 6, 1));
+        x = made(inFirst, inFirst);
+        figure(x, 2, 288, 48, 121, 0, 240, 252, 12);
         x = made(SQUARE, rows(t(0, 0, 1), t(2, 1, 1), t(1, 2, 1)));
         figure(x, 2, 13, 7, 4, 0, 20, 61, 62, 43, 23, 1);
         x = made(rows(t(1, 0, 1), t(0, 1, 1)), rows(t(0, 3, 1), t(3, 0, 1)));
@@ -355,6 +359,30 @@ public final class PromiseTests {
         due("lift(0, 1, 0)", x.lift(0, 1, 0), 1);
         due("cells() by the middle", x.cells(), 2);
         mostCells();
+        moreCells();
+    }
+
+    /** No lift: every two ways that are not parallel make a cell. */
+    private static void moreCells() {
+        int[][] one = rows(t(0, 0, 1), t(1, 0, 1), t(3, 1, 1), t(6, 2, 1), t(0, 5, 1), t(2, 6, 1), t(5, 6, 1), t(6, 5, 1));
+        int[][] other = rows(t(0, 1, 1), t(1, 3, 1), t(2, 0, 1), t(4, 1, 1), t(6, 6, 1), t(5, 2, 1), t(3, 4, 1), t(0, 6, 1));
+        RootShapes x = made(one, other);
+        int count = 0;
+        for (int abcd = 0; abcd < 4096; abcd++) {
+            int[] a = one[abcd >> 9];
+            int[] b = one[abcd >> 6 & 7];
+            int[] c = other[abcd >> 3 & 7];
+            int[] d = other[abcd & 7];
+            int across = (b[0] - a[0]) * (d[1] - c[1]) - (b[1] - a[1]) * (d[0] - c[0]);
+            if (abcd >> 9 < (abcd >> 6 & 7) && (abcd >> 3 & 7) < (abcd & 7) && across != 0) {
+                if (count % 40 == 0) {
+                    cellIs(x, count, abcd >> 9, abcd >> 6 & 7, abcd >> 3 & 7, abcd & 7, Math.abs(across));
+                }
+                count++;
+            }
+        }
+        due("some seven hundred", count > 700 ? 1 : 0, 1);
+        due("cells()", x.cells(), count);
     }
 
     private static void mostCells() {
@@ -590,6 +618,29 @@ public final class PromiseTests {
         }
     }
 
+    /** Sides whose aims have a 6: both equations lose across that way, to one side or to the other. */
+    private static void keepAtTheEdge() {
+        for (int n = 1; n <= 6; n++) {
+            for (int turn = 0; turn < 8; turn++) {
+                RootShapes x = new RootShapes();
+                for (int e = 0; e < 2; e++) {
+                    due("term", placed(x, e, 0, 0, 1, turn), 0);
+                    due("term", placed(x, e, n, 6, 2, turn), 1);
+                    due("term", placed(x, e, 6, 0, 3 + e, turn), 2);
+                }
+                due("keep() " + n + ", " + turn, x.keep(), 0);
+                due("change", x.change(1, 1, 7), 2);
+                due("keep() " + n + ", " + turn, x.keep(), 1);
+            }
+        }
+    }
+
+    private static int placed(RootShapes x, int equation, int i, int j, int c, int turn) {
+        int a = (turn & 1) == 0 ? i : 6 - i;
+        int b = (turn & 2) == 0 ? j : 6 - j;
+        return (turn & 4) == 0 ? x.term(equation, a, b, c) : x.term(equation, b, a, c);
+    }
+
     private static void two() {
         promise = 16;
         RootShapes x = made(rows(t(1, 0, 1), t(2, 3, 1)), rows(t(0, 0, 1), t(5, 1, 1)));
@@ -655,6 +706,11 @@ public final class PromiseTests {
         }
         due("round of the least", x.round(LEAST), -2);
         due("round of the most", x.round(MOST), -2);
+        x = made(rows(t(6, 5, 1)), rows());
+        due("one odd term", x.round(2), 0);
+        due("one term", x.round(31), 0);
+        due("change(0, 0, 2)", x.change(0, 0, 2), 1);
+        due("one even term", x.round(2), 1);
         x = made(rows(t(6, 6, 20), t(0, 0, -10)), rows());
         due("c a multiple of m", x.round(5), 16);
         due("a power that is 1 by m", x.round(7), 0);
