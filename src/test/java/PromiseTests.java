@@ -1,13 +1,7 @@
 import java.math.BigInteger;
 
 /** Each promise of the document by itself: ordinary inputs, the edges that it names, wrong inputs. */
-public final class PromiseTests {
-    private static final int LEAST = Integer.MIN_VALUE;
-    private static final int MOST = Integer.MAX_VALUE;
-
-    private static int wrong = 0;
-    private static int promise = 0;
-
+public final class PromiseTests extends Dues {
     private PromiseTests() {
     }
 
@@ -43,43 +37,8 @@ public final class PromiseTests {
         told();
         refusedChangesNothing();
         apart();
-        System.out.println(wrong == 0 ? "all promises hold" : wrong + " answers are not as promised");
-        if (wrong != 0) {
-            System.exit(1);
-        }
+        end();
     }
-
-    private static void due(String call, int got, int want) {
-        if (got != want) {
-            wrong++;
-            System.out.println("promise " + promise + ": " + call + " answered " + got + ", due is " + want);
-        }
-    }
-
-    /** Rows of i, j, c. */
-    private static void tell(RootShapes x, int equation, int[]... terms) {
-        for (int n = 0; n < terms.length; n++) {
-            due("term " + n + " of " + equation, x.term(equation, terms[n][0], terms[n][1], terms[n][2]), n);
-        }
-    }
-
-    private static int[] t(int i, int j, int c) {
-        return new int[] {i, j, c};
-    }
-
-    private static RootShapes made(int[][] first, int[][] second) {
-        RootShapes x = new RootShapes();
-        tell(x, 0, first);
-        tell(x, 1, second);
-        return x;
-    }
-
-    private static int[][] rows(int[]... rows) {
-        return rows;
-    }
-
-    private static final int[][] SQUARE = {{0, 0, 1}, {1, 0, 1}, {0, 1, 1}, {1, 1, 1}};
-    private static final int[][] WIDEST = {{0, 0, 1}, {6, 0, 1}, {0, 6, 1}, {6, 6, 1}};
 
     private static void newObject() {
         promise = 1;
@@ -209,17 +168,6 @@ public final class PromiseTests {
             due("clear(" + n + ")", x.clear(n), -1);
         }
         due("told(0)", x.told(0), 1);
-    }
-
-    private static void figure(RootShapes x, int which, int area, int rim, int inner, int... corners) {
-        due("AREA of " + which, x.shape(which, 0), area);
-        due("CORNERS of " + which, x.shape(which, 1), corners.length);
-        due("RIM of " + which, x.shape(which, 2), rim);
-        due("INNER of " + which, x.shape(which, 3), inner);
-        for (int k = 0; k < corners.length; k++) {
-            due("corner(" + which + ", " + k + ")", x.corner(which, k), corners[k]);
-        }
-        due("no corner more of " + which, x.corner(which, corners.length), -1);
     }
 
     private static void shape() {
@@ -395,12 +343,6 @@ public final class PromiseTests {
         due("one off the other line", x.term(1, 6, 5, 1), 7);
         due("the last, as the next are parallel", x.cell(x.cells() - 1, 2), 5);
         due("SIZE of the last", x.cell(x.cells() - 1, 4), 6);
-    }
-
-    private static void cellIs(RootShapes x, int k, int... members) {
-        for (int what = 0; what < members.length; what++) {
-            due("cell(" + k + ", " + what + ")", x.cell(k, what), members[what]);
-        }
     }
 
     private static void cell() {
