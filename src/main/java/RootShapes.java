@@ -741,7 +741,7 @@ public final class RootShapes {
             fillPowers(m);
             for (int x = 1; x < m; x++) {
                 for (int y = 1; y < m; y++) {
-                    if (isNought(e, x, y, m) && isNought(f, x, y, m)) {
+                    if (count < found.length && isNought(e, x, y, m) && isNought(f, x, y, m)) {
                         found[count] = 100 * x + y;
                         count++;
                     }
